@@ -279,10 +279,10 @@ public final class RockHeat {
         if (what >= 0 && what < ground.totals.length) {
             return ground.totals[what];
         }
-        if (what == 9) {
-            return ground.heatNow();
+        if (what == 9 || what == 10) {
+            return ground.heatInAll(what == 10);
         }
-        return what == 10 ? ground.heatAtFirst() : refuseLong(OTHER);
+        return refuseLong(OTHER);
     }
 
     public long given(int bore) {
@@ -741,23 +741,13 @@ public final class RockHeat {
             return least;
         }
 
-        long heatNow() {
+        long heatInAll(boolean atFirst) {
             long sum = 0;
             for (int i = 0; i < bores.size(); i++) {
                 ArrayList<Ring> rings = bores.get(i).rings;
                 for (int k = 0; k < rings.size(); k++) {
-                    sum += rings.get(k).heat;
-                }
-            }
-            return sum;
-        }
-
-        long heatAtFirst() {
-            long sum = 0;
-            for (int i = 0; i < bores.size(); i++) {
-                ArrayList<Ring> rings = bores.get(i).rings;
-                for (int k = 0; k < rings.size(); k++) {
-                    sum += rings.get(k).first;
+                    Ring ring = rings.get(k);
+                    sum += atFirst ? ring.first : ring.heat;
                 }
             }
             return sum;

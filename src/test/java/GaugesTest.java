@@ -84,6 +84,7 @@ public final class GaugesTest {
     x.reading(0, 10000);
     Due.due("31: 101 by 7", x.leak(0), 14);
     RockHeat y = new RockHeat();
+    y.hours(50);
     y.bore(0, 1, 101, 0, 10);
     y.reading(0, 10000);
     y.hours(7);

@@ -10,6 +10,8 @@ public final class HoursTest {
     liftAsTheHourBegan();
     frozenAsTheHourBegan();
     rulesAsTheHourBegan();
+    rulesByDays();
+    theLastOne();
     cost();
     groundByTheHoursBeginning();
     tellings();
@@ -209,6 +211,40 @@ public final class HoursTest {
     x.hours(1);
     x.hours(1);
     Due.due("22: given by 11 degrees", x.told(2), 1220 + 110 + 121);
+  }
+
+  private static void rulesByDays() {
+    RockHeat x = needing(500);
+    x.bore(0, 1, 100, 0, 10);
+    x.sun(0, 900);
+    Due.tell(x, "100", 0, 1);
+    Due.tell(x, "700", 1, 1);
+    Due.tell(x, "200", 0, 2);
+    Due.tell(x, "50", 1, 2);
+    x.hours(24);
+    Due.due("22: no rule in force: none given", x.told(2), 0);
+    Due.due("22: none taken", x.told(0), 0);
+    x.hours(24);
+    Due.due("22: day 1's give", x.told(2), 2400);
+    Due.due("22: day 1's take", x.told(0), 700);
+    x.hours(24);
+    Due.due("22: day 2's give", x.told(2), 2400 + 4800);
+    Due.due("22: day 2's take", x.told(0), 750);
+    Due.due("22: wasted", x.told(1), 900 + 200 + 850);
+  }
+
+  private static void theLastOne() {
+    RockHeat x = needing(101);
+    x.bore(0, 1, 100, 0, 10);
+    x.bore(50, 1, 100, 0, 10);
+    Due.tell(x, "100", 0, 0);
+    Due.tell(x, "100", 1, 0);
+    x.sun(0, 101);
+    x.hours(1);
+    Due.due("23: the last one of the need", x.given(1), 1);
+    Due.due("22: none bought", x.told(5), 0);
+    Due.due("7: the last one of the sun", x.heat(1, 0), 1000000);
+    Due.due("22: none wasted", x.told(1), 0);
   }
 
   private static void cost() {
