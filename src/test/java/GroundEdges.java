@@ -537,6 +537,7 @@ final class GroundEdges {
     NEW.refused(-1, "heat", 0, 0);
     NEW.refused(-1, "join", 0, 0);
     NEW.refused(-1, "wrong", 0);
+    // What is told to one object is not told to the next.
     World.busy();
     NEW.taken(0, "bore", 0, 1, 100, 0, 0);
     NEW.taken(0, "house", 0, 0, 0);

@@ -217,7 +217,7 @@ final class HourEdges {
   }
 
   /** One BORE of a LIFT that is one at all WARMTHS: what it gives, lifts, and what is bought. */
-  private static void lifted(int need, int lift, int worth, int... due) {
+  private static void machine(int need, int lift, int worth, int... due) {
     RockHeat x = World.needing(need);
     x.bore(0, 1, 9999, 0, 99);
     x.point(0, lift);
@@ -232,27 +232,27 @@ final class HourEdges {
 
   private static void giveLifted() {
     Sentence.of("III", "and than so much that g times LIFT (at ring 0's WARMTH as the HOUR began) by 100 would be above what is needed still: the greatest such g;");
-    lifted(0, 100, 99999, 0, 0);
-    lifted(1, 100, 99999, 1, 1);
-    lifted(9999, 100, 99999, 9999, 9999);
-    lifted(548, 300, 99999, 182, 546);
-    lifted(549, 300, 99999, 183, 549);
-    lifted(551, 300, 99999, 183, 549);
-    lifted(552, 300, 99999, 184, 552);
-    lifted(552, 300, 183, 183, 549);
-    lifted(99, 101, 99999, 99, 99);
-    lifted(100, 101, 99999, 99, 99);
-    lifted(101, 101, 99999, 100, 101);
-    lifted(3, 150, 99999, 2, 3);
-    lifted(4, 150, 99999, 3, 4);
-    lifted(5, 150, 99999, 3, 4);
-    lifted(6, 150, 99999, 4, 6);
-    lifted(8, 999, 99999, 0, 0);
-    lifted(9, 999, 99999, 1, 9);
-    lifted(18, 999, 99999, 1, 9);
-    lifted(19, 999, 99999, 2, 19);
-    lifted(9990, 999, 99999, 1000, 9990);
-    lifted(9989, 999, 99999, 999, 9980);
+    machine(0, 100, 99999, 0, 0);
+    machine(1, 100, 99999, 1, 1);
+    machine(9999, 100, 99999, 9999, 9999);
+    machine(548, 300, 99999, 182, 546);
+    machine(549, 300, 99999, 183, 549);
+    machine(551, 300, 99999, 183, 549);
+    machine(552, 300, 99999, 184, 552);
+    machine(552, 300, 183, 183, 549);
+    machine(99, 101, 99999, 99, 99);
+    machine(100, 101, 99999, 99, 99);
+    machine(101, 101, 99999, 100, 101);
+    machine(3, 150, 99999, 2, 3);
+    machine(4, 150, 99999, 3, 4);
+    machine(5, 150, 99999, 3, 4);
+    machine(6, 150, 99999, 4, 6);
+    machine(8, 999, 99999, 0, 0);
+    machine(9, 999, 99999, 1, 9);
+    machine(18, 999, 99999, 1, 9);
+    machine(19, 999, 99999, 2, 19);
+    machine(9990, 999, 99999, 1000, 9990);
+    machine(9989, 999, 99999, 999, 9980);
     RockHeat x = World.giving(8, "99999");
     x.point(0, 300);
     // 2 of 8 need 6; of the 2 that are needed still none can give.

@@ -7,13 +7,28 @@ public final class ModelTest {
     "(h>8)*(h<18)*2000", "(c<5)*n+(c=5)*50", "d*100+500", "99999", "0", "(b=1)*n", "(r<t)*4000",
   };
 
+  /** Numbers of a part of what may be told, where much happens, or of all of it. */
+  private static final class Chance extends Random {
+    private static final long serialVersionUID = 1;
+    private final boolean isWide;
+
+    Chance(long seed, boolean isWide) {
+      super(seed);
+      this.isWide = isWide;
+    }
+
+    int below(int part, int all) {
+      return nextInt(isWide ? all : part);
+    }
+  }
+
   private ModelTest() {
   }
 
   public static void main(String[] args) {
     texts();
     for (int seed = 0; seed < 150; seed++) {
-      run(new Random(seed), seed);
+      run(new Chance(seed, seed % 3 == 0), seed);
     }
     Due.end("ModelTest");
   }
@@ -44,7 +59,7 @@ public final class ModelTest {
     }
   }
 
-  private static void run(Random chance, int seed) {
+  private static void run(Chance chance, int seed) {
     RockHeat x = new RockHeat();
     Model m = new Model();
     for (int call = 0; call < 220; call++) {
@@ -69,12 +84,13 @@ public final class ModelTest {
     }
   }
 
-  private static void tell(int kind, RockHeat x, Model m, Random chance, String name) {
+  private static void tell(int kind, RockHeat x, Model m, Chance chance, String name) {
     int bores = m.bores.size();
     switch (kind) {
       case 0, 1 -> {
         int place = (40 + chance.nextInt(14)) * 100 + 50 + chance.nextInt(14);
-        int[] v = {1 + chance.nextInt(8), 100 + chance.nextInt(400), chance.nextInt(200), chance.nextInt(30)};
+        int[] v = {1 + chance.nextInt(8), 100 + chance.below(400, 9900), chance.below(200, 1000),
+            chance.below(30, 100)};
         if (bores < 8) {
           Due.due(name, x.bore(place, v[0], v[1], v[2], v[3]), bores);
           m.bore(place, v[0], v[1], v[2], v[3]);
@@ -105,7 +121,7 @@ public final class ModelTest {
       }
       case 6 -> {
         if (m.houses.size() < 20) {
-          int[] house = {chance.nextInt(1500), chance.nextInt(60), chance.nextInt(1 << 24), -1};
+          int[] house = {chance.below(1500, 10000), chance.below(60, 1000), chance.nextInt(1 << 24), -1};
           Due.due(name, x.house(house[0], house[1], house[2]), m.houses.size());
           m.houses.add(house);
         }
@@ -121,13 +137,13 @@ public final class ModelTest {
       }
       case 8 -> {
         int i = chance.nextInt(12);
-        int degrees = chance.nextInt(50) - 25;
+        int degrees = chance.below(50, 81) - (chance.isWide ? 40 : 25);
         Due.due(name, x.cold(i, degrees), m.coldOf(i));
         m.colds.put(i, degrees);
       }
       case 9 -> {
-        int warmth = chance.nextInt(25) - 5;
-        int lift = 100 + chance.nextInt(400);
+        int warmth = chance.below(25, 120) - (chance.isWide ? 20 : 5);
+        int lift = 100 + chance.below(400, 900);
         if (m.table.isEmpty() || m.table.size() < 8 && m.table.get(m.table.size() - 1)[0] < warmth) {
           m.table.add(new int[] {warmth, lift});
           Due.due(name, x.point(warmth, lift), m.table.size());
@@ -138,13 +154,13 @@ public final class ModelTest {
       }
       case 10 -> {
         int hour = chance.nextInt(24);
-        int v = chance.nextInt(200);
+        int v = chance.below(200, 1000);
         Due.due(name, x.price(hour, v), m.priceOf(hour));
         m.prices.put(hour, v);
       }
       case 11, 12 -> {
         int hour = chance.nextInt(24);
-        int v = chance.nextInt(chance.nextInt(5) == 0 ? 99999 : 9000);
+        int v = chance.nextInt(chance.nextInt(5) == 0 ? 100000 : 9000);
         Due.due(name, x.sun(hour, v), m.suns.getOrDefault(hour, 0));
         m.suns.put(hour, v);
       }
@@ -159,13 +175,13 @@ public final class ModelTest {
       }
       default -> {
         int crates = chance.nextInt(10);
-        int size = 1 + chance.nextInt(600);
+        int size = 1 + chance.below(600, 9999);
         Due.due(name, x.tank(crates, size), m.crates);
         m.crates = crates;
         m.size = size;
         if (bores > 0 && m.readings.size() < 20) {
           int b = chance.nextInt(bores);
-          int read = chance.nextInt(30000);
+          int read = chance.below(30000, 300001) - (chance.isWide ? 100000 : 0);
           Due.due(name, x.reading(b, read), m.readings.size());
           m.readings.add(new Model.Read(b, m.hour, read - m.bores.get(b).warm(0)));
         }
@@ -173,7 +189,7 @@ public final class ModelTest {
     }
   }
 
-  private static void ask(int kind, RockHeat x, Model m, Random chance, String name) {
+  private static void ask(int kind, RockHeat x, Model m, Chance chance, String name) {
     int bores = m.bores.size();
     int b = bores == 0 ? 0 : chance.nextInt(bores);
     switch (kind) {
@@ -182,7 +198,7 @@ public final class ModelTest {
         Due.due(name, x.need(hour), m.need(hour));
       }
       case 25 -> {
-        int warm = chance.nextInt(60000) - 20000;
+        int warm = chance.below(60000, 300001) - (chance.isWide ? 100000 : 20000);
         Due.due(name, x.lift(warm), m.lift(warm));
       }
       case 26 -> {
