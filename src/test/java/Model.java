@@ -183,9 +183,13 @@ final class Model {
       if (bore.open && warms[b][0] > 0) {
         long lift = lift(warms[b][0]);
         long g = Math.min(worth(b, 0, warms), Math.min(bore.heat[0], 100 * needed + 99));
-        while (g * lift / 100 > needed) {
-          g--;
+        // By halves: one by one from 99999 down would take most of a run's time.
+        for (long step = 1 << 17; step > 0; step /= 2) {
+          while (g * lift / 100 > needed && (g - step) * lift / 100 > needed) {
+            g -= step;
+          }
         }
+        g -= g * lift / 100 > needed ? 1 : 0;
         bore.heat[0] -= g;
         bore.given += g;
         totals[2] += g;
